@@ -721,7 +721,7 @@ public final class SureSums {
                     break;
                 case Tokens.SQRT:
                 case Tokens.ABS:
-                    good = ofOne(token == Tokens.SQRT ? Program.ROOT : Program.ABSOLUTE, 0);
+                    good = ofOne(token == Tokens.SQRT ? Program.ROOT : Program.ABSOLUTE);
                     break;
                 case Tokens.MAX:
                 case Tokens.MIN:
@@ -788,16 +788,19 @@ public final class SureSums {
             if (into.knots < Program.KNOTS_MOST && line < 0) {
                 return fail(WRONG_LETTER);
             }
+            boolean good = knot();
             if (into.isFunction(line)) {
-                return ofOne(Program.CALL, line);
+                good = good && openBracket() && chain(SUMS) && closeBracket();
+                into.add(Program.CALL, line);
+            } else {
+                into.add(Program.NUMBER_LINE, line);
             }
-            into.add(Program.NUMBER_LINE, line);
-            return knot();
+            return good;
         }
 
-        private boolean ofOne(int op, int argument) {
+        private boolean ofOne(int op) {
             boolean good = knot() && openBracket() && chain(SUMS) && closeBracket();
-            into.add(op, argument);
+            into.add(op, 0);
             return good;
         }
 
@@ -891,8 +894,12 @@ public final class SureSums {
         }
 
         private boolean closeBracket() {
+            if (token != ')') {
+                return fail(WRONG_TOKEN);
+            }
             open--;
-            return expect(')');
+            advance();
+            return true;
         }
 
         private boolean expect(int wanted) {
