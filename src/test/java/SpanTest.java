@@ -62,6 +62,14 @@ public final class SpanTest {
         span("let a=1/-3;", 4, -6, -5);
         // 16 by 5..6 times 16: 42.6, 51.2
         span("let b=1/3;let a=1/b;", 4, 42, 52);
+        span("let b=1/3;let a=1/-b;", 4, -52, -42);
+        span("let b=1/3;let a=-1/b;", 4, -52, -42);
+        span("let b=1/3;let a=-1/-b;", 4, 42, 52);
+        // 5..6 by 5..6 times 16: 13.3, 19.2
+        span("let b=1/3;let a=b/b;", 4, 13, 20);
+        span("let b=1/3;let a=-b/-b;", 4, 13, 20);
+        span("let b=1/3;let a=-b/b;", 4, -20, -13);
+        span("let b=1/3;let a=b/-b;", 4, -20, -13);
         // -1..1 by 5..6 times 16: -3.2 .. 3.2
         span("let b=1/3;let a=(b-b)/b;", 4, -4, 4);
         none("let a=1/0;", 4);

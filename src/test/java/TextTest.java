@@ -5,6 +5,7 @@ public final class TextTest {
         feedFills();
         feedBytesInOrder();
         textTakesAndEmpties();
+        textEndsWhereItEnds();
         textKeepsOldWithFault();
         wrongTokens();
         wordsThatWantMore();
@@ -84,6 +85,19 @@ public final class TextTest {
         Check.feed(x, "let a = 1;");
         Check.due("text(0) with a tape", x.text(0), 0);
         Check.due("empties it", x.text(1), -2);
+    }
+
+    /** What stands behind the first n bytes is no part of the last word or number. */
+    private static void textEndsWhereItEnds() {
+        SureSums x = new SureSums();
+        Check.feed(x, "let a = 1000;");
+        Check.due("text up to 100", x.text(11), -1);
+        Check.due("more must come", x.fault(0), 1);
+        Check.due("at the length", x.fault(1), 11);
+        Check.feed(x, "let a = bc;");
+        Check.due("text up to b", x.text(9), -1);
+        Check.due("b isn't told", x.fault(0), 3);
+        Check.due("at b", x.fault(1), 8);
     }
 
     private static void textKeepsOldWithFault() {
