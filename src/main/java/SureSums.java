@@ -321,9 +321,10 @@ public final class SureSums {
         static final int FUNCTIONS_MOST = 6;
         static final int LINES_MOST = 18;
         static final int KNOTS_MOST = 96;
-        /** An if has five knots at least and two marks, so 19 ifs with 38 marks at most. */
-        static final int CODE_MOST = 136;
-        static final int CHOICES_MOST = 20;
+        /** Each knot is one code, and two marks more if it is an if: room for a text of mere ifs. */
+        static final int CODE_MOST = 3 * KNOTS_MOST;
+        /** A line uses those ahead of it alone, so that each if of a text is open once at a time. */
+        static final int CHOICES_MOST = KNOTS_MOST;
 
         static final int CONSTANT = 0;
         static final int VARIABLE = 1;
