@@ -136,7 +136,7 @@ public final class RandomTest {
     }
 
     private static int tellOne(int run) {
-        String text = texts.any();
+        String text = below(4) == 0 ? texts.full() : texts.any();
         byte[] bytes = new byte[(text.length() + 19) / 20 * 20];
         for (int k = 0; k < bytes.length; k++) {
             bytes[k] = (byte) (k < text.length() ? text.charAt(k) : below(256));

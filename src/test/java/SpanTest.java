@@ -12,6 +12,7 @@ public final class SpanTest {
         lettersAndFunctions();
         noughts();
         overPieces();
+        waitingParts();
         workCounted();
         workBounded();
         at();
@@ -198,6 +199,21 @@ public final class SpanTest {
         span("fun f=999;let a=area(f,0,2);", 4, 1998 * 16, 1998 * 16);
         // t is nothing to what is inside
         span("fun f=t;fun g=t+area(f,0,2);let a=most(g,0,1);", 4, 16 + 8, 16 + 48);
+    }
+
+    /** 96 knots, of which as many as can be wait for the innermost: three in each bracket, over two lines. */
+    private static void waitingParts() {
+        String b = "1+1*max(1,".repeat(8) + "1" + ")".repeat(8);
+        String a = "1+1*max(1,".repeat(7) + "1+1*b" + ")".repeat(7);
+        String text = "let b=" + b + ";let a=" + a + ";";
+        span(text, 4, 17 * 16, 17 * 16);
+        SureSums x = Check.told(text);
+        Check.due("knots", x.count(2), 96);
+        Check.dueDouble("machine(a)", x.machine(0), 17.0);
+        Check.due("off(a)", x.off(0), 0);
+        String exact = "let b=" + "1+1*(".repeat(8) + "1" + ")".repeat(8) + ";let a=" + "1+1*(".repeat(8) + "1+1*b" + ")".repeat(8) + ";";
+        span(exact, 4, 18 * 16, 18 * 16);
+        Check.due("exact(a)", Check.told(exact).exact(0, 0), 18);
     }
 
     private static void workCounted() {

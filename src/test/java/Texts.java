@@ -43,6 +43,98 @@ final class Texts {
         return "";
     }
 
+    /** A good text of mostly ifs, mostly with as many knots as it may have, each line made of those ahead. */
+    String full() {
+        for (int k = 0; k < 1000; k++) {
+            made = new StringBuilder();
+            numbers = "";
+            functions = "";
+            int lines = 1 + below(below(3) == 0 ? 18 : 4);
+            int knots = below(4) == 0 ? 80 + below(17) : 96;
+            fullLines(lines, knots);
+            if (made.length() <= 500) {
+                return made.toString();
+            }
+        }
+        return "";
+    }
+
+    private void fullLines(int lines, int knots) {
+        int left = knots;
+        for (int line = lines; line > 0 && left > 0; line--) {
+            inFun = line > 1 && functions.length() < 6 && (numbers.length() >= 11 || below(3) == 0);
+            char letter = (char) ('a' + lines - line);
+            int share = line == 1 ? left : Math.max(1, left / line + below(7) - 3);
+            made.append(inFun ? "fun " : "let ").append(letter).append('=');
+            open = 0;
+            withKnots(Math.min(share, left));
+            made.append(';');
+            left -= share;
+            functions += inFun ? letter : "";
+            numbers += inFun ? "" : letter;
+        }
+    }
+
+    /** Signs between two need no brackets here: whatever they bind, the knots are as many. */
+    private void withKnots(int knots) {
+        int how = below(20);
+        if (knots <= 1) {
+            smallLeaf();
+        } else if (knots >= 5 && open < 8 && how < 16) {
+            int first = 1 + (below(2) == 0 ? 0 : below(knots - 4));
+            int second = 1 + (below(2) == 0 ? 0 : below(knots - 3 - first));
+            int third = 1 + below(knots - 2 - first - second);
+            opened("if(", first);
+            between(below(2) == 0 ? "<" : ">", second);
+            between(",", third);
+            between(",", knots - 1 - first - second - third);
+            closed();
+        } else if (knots >= 3 && (open >= 8 || how >= 10)) {
+            int first = 1 + below(knots - 2);
+            withKnots(first);
+            between(how == 19 ? "/" : how % 3 == 0 ? "*" : how % 3 == 1 ? "+" : "-", knots - 1 - first);
+        } else if (open >= 8 || how == 0) {
+            between("-", knots - 1);
+        } else {
+            opened(how < 6 && !functions.isEmpty() ? latest(functions) + "(" : how < 10 ? "abs(" : "sqrt(", knots - 1);
+            closed();
+        }
+    }
+
+    private void opened(String word, int knots) {
+        open++;
+        between(word, knots);
+    }
+
+    private void between(String sign, int knots) {
+        made.append(sign);
+        withKnots(knots);
+    }
+
+    private void closed() {
+        made.append(')');
+        open--;
+    }
+
+    /** Mostly what was told last, so that the lines lie deep in one another. */
+    private char latest(String letters) {
+        return letters.charAt(below(3) == 0 ? below(letters.length()) : letters.length() - 1);
+    }
+
+    private void smallLeaf() {
+        int how = below(20);
+        if (how < 4 && inFun) {
+            made.append('t');
+        } else if (how < 9 && !numbers.isEmpty()) {
+            made.append(latest(numbers));
+        } else if (how == 9 && open < 8 && !functions.isEmpty() && made.length() < 420) {
+            over();
+            made.append(')');
+        } else {
+            made.append(below(4));
+        }
+    }
+
     private String tokensAlone() {
         StringBuilder text = new StringBuilder();
         for (int k = below(40); k >= 0; k--) {
